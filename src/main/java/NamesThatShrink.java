@@ -541,7 +541,7 @@ public final class NamesThatShrink {
         }
     }
 
-    /** THE TEXT, and a reader that goes through it, no further than a text of its kind may be long. */
+    /** THE TEXT, and a reader of it that goes no further than a text of its kind may be long. */
     private static final class Text {
         static final int MOST = 80;
         static final int END = -1;
@@ -810,7 +810,8 @@ public final class NamesThatShrink {
                 return false;
             }
             logged--;
-            nextLogged = nextLogged > 0 && nextLogged <= MOST_LOGGED ? nextLogged - 1 : MOST_LOGGED - 1;
+            boolean isInside = nextLogged > 0 && nextLogged <= MOST_LOGGED;
+            nextLogged = isInside ? nextLogged - 1 : MOST_LOGGED - 1;
             int who = loggedWho[nextLogged];
             for (int i = 0; i < PEOPLE; i++) {
                 if ((who >> i & 1) != 0) {
@@ -944,8 +945,9 @@ public final class NamesThatShrink {
         }
 
         private void doSteps(int from, int to, int depth) {
+            int last = Math.min(to, MOST_SIGNS);
             int at = from;
-            for (int i = 0; i < MOST_SIGNS && at >= 0 && at < to && at < MOST_SIGNS && !ended; i++) {
+            for (int i = 0; i < MOST_SIGNS && at >= 0 && at < last && !ended; i++) {
                 doStep(at, depth);
                 at = behind[at];
             }
@@ -1069,9 +1071,7 @@ public final class NamesThatShrink {
         final int[] groupFrom = new int[LETTERS + 1];
         int size;
         int groups;
-        int largest;
         int longest;
-        int free = 1;
 
         void take(Crowd crowd) {
             size = 0;
@@ -1089,7 +1089,6 @@ public final class NamesThatShrink {
                 findSharing(place);
             }
             findGroups();
-            free = freeStates();
         }
 
         private void insert(int who, int itsCode) {
@@ -1142,13 +1141,11 @@ public final class NamesThatShrink {
 
         private void findGroups() {
             groups = 0;
-            largest = 0;
             for (int place = 0; place < size; place++) {
                 boolean isFirst = place == 0 || beginning[place][1] != beginning[place - 1][1];
                 if (isFirst && groups < LETTERS) {
                     groupFrom[groups] = place;
                     groups++;
-                    largest = Math.max(largest, Long.bitCount(sharing[place][1]));
                 }
             }
             groupFrom[groups] = size;
@@ -1173,13 +1170,17 @@ public final class NamesThatShrink {
         }
 
         /**
-         * How many STATES can come if BOAT bears all (no more than one above the limit is told).
-         * Who stands ahead of another one on its way down can't be passed; all else can be, so
-         * each STATE comes where nobody whose NAME begins with another one's has fewer LETTERS.
+         * How many STATES can come (no more than one above the limit is told). Who stands ahead of
+         * another one on its way down can't be passed, and a NAME that more have than BOAT bears is
+         * never left. But all others can go one after the other without a meeting on the way, so
+         * each STATE comes in which nobody has fewer LETTERS than one whose NAME it begins with.
          */
-        private int freeStates() {
+        int statesWith(int boat) {
             for (int place = 0; place < size; place++) {
-                Arrays.fill(ways[place], 1);
+                boolean stays = namesakes(place) > boat;
+                for (int l = 0; l <= letters[place]; l++) {
+                    ways[place][l] = stays && l < letters[place] ? 0 : 1;
+                }
             }
             int all = 1;
             for (int place = size - 1; place >= 0; place--) {
@@ -1198,6 +1199,16 @@ public final class NamesThatShrink {
                 }
             }
             return all;
+        }
+
+        private int namesakes(int place) {
+            int many = 0;
+            for (int i = 0; i < size; i++) {
+                if (code[i] == code[place]) {
+                    many++;
+                }
+            }
+            return many;
         }
 
         /** From the ways with just so many LETTERS to the ways with so many at least. */
@@ -1230,7 +1241,8 @@ public final class NamesThatShrink {
      */
     private static final class Search {
         static final int MOST_STATES = 20000;
-        static final int SPARE = 16;
+        // groups of which nobody can be called add a STATE each to what their product tells
+        static final int SPARE = LETTERS;
         static final int GROUP_BIT = 50;
         final Lineup lineup = new Lineup();
         final int[] knownName = new int[PEOPLE];
@@ -1256,15 +1268,16 @@ public final class NamesThatShrink {
         /** How many STATES could come if BOAT bore all. */
         int freeStates(Crowd crowd) {
             lineUp(crowd);
-            return lineup.free;
+            return lineup.statesWith(PEOPLE);
         }
 
-        /** How many STATES can come, or TOO_MANY. What was found holds till a NAME or BOAT changes. */
+        /** How many STATES can come, or TOO_MANY; found once till a NAME or BOAT changes. */
         int look(Crowd crowd) {
             lineUp(crowd);
             if (boat != crowd.boat) {
                 boat = crowd.boat;
-                total = spreadAll();
+                int many = lineup.statesWith(boat);
+                total = many > MOST_STATES ? TOO_MANY : spreadAll(many);
             }
             return total;
         }
@@ -1286,19 +1299,14 @@ public final class NamesThatShrink {
             return true;
         }
 
-        private int spreadAll() {
-            if (lineup.free > MOST_STATES && lineup.largest <= boat) {
-                return TOO_MANY;
-            }
-            makeRoom(Math.min(lineup.free, MOST_STATES) + SPARE);
+        private int spreadAll(int many) {
+            makeRoom(many + SPARE);
             int all = 1;
             int allUnlike = 1;
             int allNameless = 1;
             for (int g = 0; g < lineup.groups; g++) {
                 groupAt[g] = found;
-                if (!spread(g, all)) {
-                    return TOO_MANY;
-                }
+                spread(g);
                 all *= found - groupAt[g];
                 allUnlike *= unlike;
                 allNameless *= nameless;
@@ -1329,24 +1337,20 @@ public final class NamesThatShrink {
             found = 0;
         }
 
-        /** All STATES of a group, if they and those of the groups before it are not too many. */
-        private boolean spread(int group, int before) {
-            int first = found;
+        private void spread(int group) {
             unlike = 0;
             nameless = 0;
+            int first = found;
             add(startOf(group), -1, 0);
             for (int at = first; at < found && at < state.length; at++) {
                 expand(at);
-                if (before * (found - first) > MOST_STATES) {
-                    return false;
-                }
             }
-            return true;
         }
 
         private long startOf(int group) {
             long start = groupMark(group);
-            for (int place = lineup.groupFrom[group]; place < lineup.groupFrom[group + 1]; place++) {
+            int end = lineup.groupFrom[group + 1];
+            for (int place = lineup.groupFrom[group]; place < end; place++) {
                 start |= (long) lineup.letters[place] << Lineup.BITS * place;
             }
             return start;
@@ -1362,7 +1366,8 @@ public final class NamesThatShrink {
             for (int l = 1; l <= lineup.longest; l++) {
                 long here = placesWith(from, l);
                 for (int i = 0; i < PEOPLE && here != 0; i++) {
-                    long who = here & lineup.sharing[Long.numberOfTrailingZeros(here) / Lineup.BITS][l];
+                    int place = Long.numberOfTrailingZeros(here) / Lineup.BITS;
+                    long who = here & lineup.sharing[place][l];
                     here &= ~who;
                     int many = Long.bitCount(who);
                     allUnlike = allUnlike && many == 1;
@@ -1379,7 +1384,7 @@ public final class NamesThatShrink {
             }
         }
 
-        /** Where the five bits are l: less l they are none, and taking one more needs the top bit. */
+        /** Where the five bits are l: less l they are 0, and one less needs the top bit. */
         private static long placesWith(long from, int l) {
             long rest = from & Lineup.ALL_PLACES ^ Lineup.ONES * l;
             return ~((rest | Lineup.TOPS) - Lineup.ONES) >>> 4 & Lineup.ONES;
@@ -1420,7 +1425,7 @@ public final class NamesThatShrink {
             return -1;
         }
 
-        /** Which STATES are wanted by fewest() and losses(); false if one has not so many LETTERS. */
+        /** The STATES that fewest() and losses() want; false if one has too few LETTERS. */
         boolean wantDues(Crowd crowd, long dues) {
             oddMatters = 0;
             allowed = 0;
@@ -1437,7 +1442,7 @@ public final class NamesThatShrink {
             return true;
         }
 
-        /** Which STATES are wanted by river(); false if one without a NAME can't come over. */
+        /** The STATES that river() wants; false if one without a NAME can't come over. */
         boolean wantSides(Crowd crowd) {
             oddMatters = Lineup.ONES;
             allowed = 0;

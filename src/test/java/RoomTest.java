@@ -24,8 +24,9 @@ public final class RoomTest {
 
     /** Each question on a crowd that was not asked about before, near the limit of states. */
     private static void searches(NamesThatShrink x) {
-        tell(x, "aaaaaaa;abbb;accc;addd;b;ca");
+        tell(x, "aaaaaaa;abbbbbb;acccccc;adddddd;b;c");
         x.set(1, 0, 3);
+        System.out.println(x.states() + " states");
         for (int i = 0; i < 120; i++) {
             x.rename(4, 1 + i % 6);
             x.states();

@@ -16,9 +16,11 @@ public final class SlowTest {
     private final Slow slow = new Slow();
     private final List<String> log = new ArrayList<>();
     private final int width;
+    private final boolean asksMuch;
 
     private SlowTest(long seed) {
         random = new Random(seed);
+        asksMuch = seed % 3 == 0;
         width = 1 + random.nextInt(4);
     }
 
@@ -37,6 +39,10 @@ public final class SlowTest {
     private void run(int seed) {
         if (random.nextInt(4) > 0) {
             tellCrowd(random.nextInt(3) == 0 ? FIXED[random.nextInt(FIXED.length)] : someCrowd());
+        }
+        if (random.nextInt(2) == 0) {
+            int boat = 1 + below(3);
+            same("set(1, 0, " + boat + ")", fast.set(1, 0, boat), slow.set(1, 0, boat));
         }
         for (int i = 0; i < 60 && wrong == 0; i++) {
             step();
@@ -171,7 +177,8 @@ public final class SlowTest {
     }
 
     private void step() {
-        int kind = below(42);
+        // in every third run the names last longer: questions, and now and then a new name
+        int kind = !asksMuch ? below(42) : below(6) == 0 ? 9 : 14 + below(14);
         if (kind < 14) {
             stepOfCalls(kind);
         } else if (kind < 28) {
