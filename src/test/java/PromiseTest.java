@@ -74,6 +74,10 @@ public final class PromiseTest {
         return Slow.code(name);
     }
 
+    private static String nameOf(NamesThatShrink x, int person) {
+        return Slow.name(x.of(person, 0));
+    }
+
     private static boolean ofThrows(NamesThatShrink x, int person, int what) {
         try {
             x.of(person, what);
@@ -188,6 +192,8 @@ public final class PromiseTest {
         x = of("abf");
         due("price", x.set(0, 5, 9), 1);
         due("price", x.set(0, 5, 8), 9);
+        due("price of a", x.set(0, 0, 2), 1);
+        due("price of a", x.set(0, 0, 1), 2);
         due("it counts", x.rename(0, code("abf")), 10);
         due("boat", x.set(1, -7, 1), 10);
         due("boat", x.set(1, 99, 10), 1);
@@ -324,6 +330,9 @@ public final class PromiseTest {
         }
         due("undo", x.undo(), -1);
         due("the first four stay", x.count(7), 4);
+        due("they were the first one's", x.of(0, 0), code("abcd"));
+        due("the second one is back", x.of(1, 0), code("abcdefac"));
+        due("the last one is back", x.of(7, 0), code("cabcdefa"));
 
         promise12();
 
@@ -495,6 +504,9 @@ public final class PromiseTest {
         x = of("abc;abd;ab;b");
         due("tree", x.tree(), 5);
         dueRow("tree", x, code("ab"), 3);
+        x = of("d");
+        due("one", x.tree(), 1);
+        dueRow("one", x, 4, 1);
         x = of("b;a");
         due("tree", x.tree(), 2);
         dueRow("the least code", x, 1, 1);
@@ -552,6 +564,11 @@ public final class PromiseTest {
         x = of("aab;aac;aad");
         x.set(1, 0, 2);
         due("in a boat for two", x.fewest(0x222), 5);
+        due("one goes ahead", x.fewest(0x223), 6);
+        dueRow("the others together then", x, 58, 8, 1, 59, 60, 8);
+        x = of("aab;aac");
+        due("together, though one loses more", x.fewest(0x23), 4);
+        dueRow("together, though one loses more", x, 58, 59, 8, 1);
 
         promise = 22;
         x = of("abc;abd;ab;b");
@@ -564,6 +581,9 @@ public final class PromiseTest {
         x = of("ab;ac;a");
         due("two of two", x.losses(0x022), 5);
         dueRow("two of two", x, 3);
+        x = of("aab;aac");
+        due("one behind the other, a call more", x.losses(0x23), 5);
+        dueRow("one behind the other, a call more", x, 5);
         due("fewest", x.fewest(0x022), 3);
         x = of("aaaaaaaa;baaaaaaa;caaaaaaa;daaaaaaa;eaa");
         due("too many states", x.losses(1), -3);
@@ -653,6 +673,15 @@ public final class PromiseTest {
         x.set(1, 0, 1);
         due("two stay", x.states(), 2);
         dueRow("two stay", x, 0, 0);
+        x = of("aaaaaaaa;aaaaaaaa;baaaaaaa;baaaaaaa;cccccccc;dddddddd;eeeeeeee");
+        due("too many", x.states(), -3);
+        x.set(1, 0, 1);
+        due("not so many, if four can't be called", x.states(), 729);
+        dueRow("not so many", x, 0, 0);
+        due("most() is not asked about the boat", x.most(), -3);
+        x = of("aa;aa;aaab;aaac;a");
+        x.set(1, 0, 1);
+        due("two stay, and none can pass them", x.states(), 3 * 3 * 2);
         x = of("aaaaaaaa;baaaaaaa;caaaaaaa;daaaaaaa;ea");
         due("19683", x.states(), 19683);
         dueRow("19683", x, 19683, 1);
@@ -675,6 +704,14 @@ public final class PromiseTest {
         x.set(1, 0, 1);
         due("20000, the boat bears one", x.states(), 20000);
         due("most", x.most(), 26);
+
+        x = of("abcd;aabb;aacc;b");
+        for (int i = 0; i < 200; i++) {
+            // after many searches a used object still answers as a new one
+            x.rename(i % 3, code("a" + "bcdef".charAt(i % 5) + "cdabef".charAt(i % 6) + "fab".charAt(i / 7 % 3)));
+            NamesThatShrink fresh = of(nameOf(x, 0) + ";" + nameOf(x, 1) + ";" + nameOf(x, 2) + ";b");
+            due("states of a used one", x.states(), fresh.states());
+        }
 
         promise = 26;
         x = of("abc;abd;ab;b");
@@ -713,6 +750,8 @@ public final class PromiseTest {
         dueRow("six of one letter", x, 1, 2, 3, 4, 5, 6);
         due("six that never meet", x.names(6, 2, 1), 12);
         dueRow("six that never meet", x, 8, 15, 22, 29, 36, 43);
+        due("six of five letters", x.names(6, 5, 0), 30);
+        dueRow("six of five letters", x, 2801, 2802, 2803, 2804, 2805, 2806);
         due("of five letters", x.names(2, 5, 0), 10);
         dueRow("of five letters", x, code("aaaaa"), code("aaaab"));
         due("of five letters, one lost", x.names(2, 5, 1), 10);
@@ -735,6 +774,11 @@ public final class PromiseTest {
         due("none is left", x.names(1, 5, 8), -2);
         due("k 4 leaves one letter of five", x.names(1, 5, 4), -2);
         due("k 3 leaves two", x.names(1, 5, 3), 5);
+        x = of("a=3;c=8;d=9;e=9;f=9");
+        due("dearer ones behind", x.names(3, 1, 0), 12);
+        dueRow("dearer ones behind", x, 1, 2, 3);
+        due("of two letters", x.names(4, 2, 0), 2 + 4 + 4 + 6);
+        dueRow("of two letters", x, code("aa"), code("ab"), code("ba"), code("bb"));
 
         promise = 28;
         x = of("f;aa;a=3;b=2");
@@ -751,7 +795,10 @@ public final class PromiseTest {
         due("n 6", x.safe(6, 0), -1);
         due("k -1", x.safe(1, -1), -1);
         due("k 9", x.safe(1, 9), -1);
-        tell(x, "b;c;d;e;a");
+        tell(x, "b;c;d;a");
+        due("one", x.safe(1, 0), 1);
+        dueRow("one", x, 5, 5);
+        tell(x, "e");
         due("none", x.safe(1, 0), 0);
         dueRow("none", x, NO_ROW);
 

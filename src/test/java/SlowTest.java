@@ -8,6 +8,11 @@ public final class SlowTest {
     private static final String[] FIXED = {"abc;abd;ab;b", "aa;a;aab;ab;abb", "a;a;a", "abc;abc;ab",
         "aaaa;aaab;aaba;abaa;b", "ab;ac;ad;ae;af;a", "abcdefab;abcdefa;abcdef", "a=9;b=2;ba;bb;bba",
         "ab;ab;ac;ac;a", "abab;abac;abb;ac;ba;bb;c"};
+    private static final String[] CLOSE = {"aab", "aac", "aad", "ab", "ac", "aa", "a", "aabb", "aabc", "aacb",
+        "aacc", "aaab", "aaac", "aaad", "abbb", "abbc"};
+    /** Crowds, boats and dues for which several ends are as good: the least row decides. */
+    private static final String[] TIES = {"aac;aaad;aaac;aaab;aaab 3 32333", "aad;aacc;aabb;aacb;aac 4 32342",
+        "aaac;aabb;aaab;aabc;aa 2 23332", "ab;aaab;aabb;ac;aaac 2 30421", "aa;aacc;aacb;aaac;abbb 3 4230"};
     private static int wrong;
     private static int calls;
 
@@ -27,6 +32,9 @@ public final class SlowTest {
     public static void main(String[] args) {
         int runs = args.length > 0 ? Integer.parseInt(args[0]) : 400;
         int first = args.length > 1 ? Integer.parseInt(args[1]) : 0;
+        for (String tie : TIES) {
+            new SlowTest(0).askTie(tie.split(" "));
+        }
         for (int seed = first; seed < first + runs && wrong == 0; seed++) {
             new SlowTest(seed).run(seed);
         }
@@ -38,11 +46,17 @@ public final class SlowTest {
 
     private void run(int seed) {
         if (random.nextInt(4) > 0) {
-            tellCrowd(random.nextInt(3) == 0 ? FIXED[random.nextInt(FIXED.length)] : someCrowd());
+            int kind = random.nextInt(3);
+            boolean isClose = asksMuch && kind == 1;
+            tellCrowd(kind == 0 ? FIXED[below(FIXED.length)] : isClose ? closeCrowd() : someCrowd());
         }
         if (random.nextInt(2) == 0) {
             int boat = 1 + below(3);
             same("set(1, 0, " + boat + ")", fast.set(1, 0, boat), slow.set(1, 0, boat));
+        }
+        for (int i = 0; i < 6 && seed % 2 == 0; i++) {
+            int price = 1 + below(9);
+            same("set(0, " + i + ", " + price + ")", fast.set(0, i, price), slow.set(0, i, price));
         }
         for (int i = 0; i < 60 && wrong == 0; i++) {
             step();
@@ -52,6 +66,18 @@ public final class SlowTest {
             for (String s : log) {
                 System.out.println("  " + s);
             }
+        }
+    }
+
+    private void askTie(String[] tie) {
+        int boat = Integer.parseInt(tie[1]);
+        long dues = Long.parseLong(tie[2], 16);
+        tellCrowd(tie[0]);
+        same("set(1, 0, " + boat + ")", fast.set(1, 0, boat), slow.set(1, 0, boat));
+        same("fewest(" + dues + ")", fast.fewest(dues), slow.fewest(dues));
+        compareRows();
+        if (wrong != 0) {
+            System.out.println(String.join("\n", log));
         }
     }
 
@@ -83,6 +109,16 @@ public final class SlowTest {
             }
         }
         return spoil(b);
+    }
+
+    /** Three to five who all can meet, so that it matters who goes with whom. */
+    private String closeCrowd() {
+        StringBuilder b = new StringBuilder(CLOSE[below(CLOSE.length)]);
+        int more = 2 + below(3);
+        for (int i = 0; i < more; i++) {
+            b.append(';').append(CLOSE[below(CLOSE.length)]);
+        }
+        return b.toString();
     }
 
     private String spoil(StringBuilder b) {
