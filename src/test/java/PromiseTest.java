@@ -74,10 +74,6 @@ public final class PromiseTest {
         return Slow.code(name);
     }
 
-    private static String nameOf(NamesThatShrink x, int person) {
-        return Slow.name(x.of(person, 0));
-    }
-
     private static boolean ofThrows(NamesThatShrink x, int person, int what) {
         try {
             x.of(person, what);
@@ -705,13 +701,16 @@ public final class PromiseTest {
         due("20000, the boat bears one", x.states(), 20000);
         due("most", x.most(), 26);
 
-        x = of("abcd;aabb;aacc;b");
-        for (int i = 0; i < 200; i++) {
-            // after many searches a used object still answers as a new one
-            x.rename(i % 3, code("a" + "bcdef".charAt(i % 5) + "cdabef".charAt(i % 6) + "fab".charAt(i / 7 % 3)));
-            NamesThatShrink fresh = of(nameOf(x, 0) + ";" + nameOf(x, 1) + ";" + nameOf(x, 2) + ";b");
-            due("states of a used one", x.states(), fresh.states());
-        }
+        x = of("a;aa;aaa;aaaa;aaaaa;aaaaaa;aaaaaaa;aaaaaaaa;bbb");
+        due("nobody passes those ahead: 4862 * 4", x.states(), 19448);
+        x = of("aaaaaaaa;aaaaaaaa;cccccccc;dddddddd;eeeeeeee;fff");
+        x.set(1, 0, 1);
+        due("the first two stay", x.states(), 729 * 4);
+        x = of("a;b;c;d;e;f;a;b;c;d");
+        due("all with unlike names", x.states(), 64);
+        due("all are named anew", x.sheet(2, 10, 8, 1), 9);
+        due("aa .. af, ba .. bc", x.states(), 729 * 27);
+        usedObjectsAnswerAsNewOnes();
 
         promise = 26;
         x = of("abc;abd;ab;b");
@@ -727,6 +726,22 @@ public final class PromiseTest {
         due("too many states", x.comes(0), -3);
         due("it has fewer: that first", x.comes(9), -1);
         due("nobody", new NamesThatShrink().comes(0), 0);
+    }
+
+    /** Four who share their first letter only, by searches of some 300 states with unlike lengths. */
+    private static void usedObjectsAnswerAsNewOnes() {
+        int[][] lengths = {{8, 3, 2, 2}, {5, 5, 2, 2}, {4, 4, 3, 2}, {3, 3, 3, 4}, {4, 3, 4, 2}, {6, 2, 3, 2}};
+        NamesThatShrink used = of("a;a;a;a");
+        for (int i = 0; i < 120; i++) {
+            StringBuilder names = new StringBuilder();
+            for (int p = 0; p < 4; p++) {
+                int length = lengths[i % 6][(i / 6 * (i % 2 == 0 ? 1 : 3) + (i / 24 % 2 == 0 ? p : 3 - p)) % 4];
+                String name = "a" + times(length - 1, "" + "bcde".charAt(p));
+                used.rename(p, code(name));
+                names.append(p == 0 ? "" : ";").append(name);
+            }
+            due("states of " + names, used.states(), of(names.toString()).states());
+        }
     }
 
     private static Slow slowOf(String crowd) {
