@@ -732,7 +732,7 @@ public final class PromiseTest {
     private static void usedObjectsAnswerAsNewOnes() {
         int[][] lengths = {{8, 3, 2, 2}, {5, 5, 2, 2}, {4, 4, 3, 2}, {3, 3, 3, 4}, {4, 3, 4, 2}, {6, 2, 3, 2}};
         NamesThatShrink used = of("a;a;a;a");
-        for (int i = 0; i < 120; i++) {
+        for (int i = 0; i < 96; i++) {
             StringBuilder names = new StringBuilder();
             for (int p = 0; p < 4; p++) {
                 int length = lengths[i % 6][(i / 6 * (i % 2 == 0 ? 1 : 3) + (i / 24 % 2 == 0 ? p : 3 - p)) % 4];
