@@ -726,6 +726,25 @@ public final class PromiseTest {
         due("too many states", x.comes(0), -3);
         due("it has fewer: that first", x.comes(9), -1);
         due("nobody", new NamesThatShrink().comes(0), 0);
+        everyStateOf("abc;abd;ab");
+        everyStateOf("aaab;aaa;ab");
+        everyStateOf("aa;ab;ac;b");
+        everyStateOf("abab;abab;aba");
+    }
+
+    /** comes() of each number of letters of each of three, or four. */
+    private static void everyStateOf(String crowd) {
+        for (int boat = 1; boat <= 3; boat++) {
+            NamesThatShrink x = of(crowd);
+            Slow slow = slowOf(crowd);
+            x.set(1, 0, boat);
+            slow.set(1, 0, boat);
+            for (long letters = 0; letters < 0x5555; letters++) {
+                if ((letters & 0x8888) == 0 && slow.comes(letters) != -1) {
+                    due("comes(" + letters + ") of " + crowd, x.comes(letters), slow.comes(letters));
+                }
+            }
+        }
     }
 
     /** Four who share their first letter only, by searches of some 300 states with unlike lengths. */

@@ -238,6 +238,8 @@ final class SearchBounds extends Bounds {
             19998, 8680, 1);
         tells("19448, for eight can't be passed", () -> of("a;aa;aaa;aaaa;aaaaa;aaaaaa;aaaaaaa;aaaaaaaa;bbb"),
             y -> y.states(), 19448, 1024, 1);
+        tells("19683, for two go together", () -> of("aaaaaaaa;baaaaaaa;caaaaaaa;daaaaaaa;ea;ea"), y -> y.states(),
+            19683, 6561, 1);
         due("two thirds of them", of("c;" + WITHOUT_CC).states(), 13334);
         stays("too many", () -> of(TWO_PAIRS, 2), y -> y.states(), -3);
         tells("not so many in a lesser boat", () -> of(TWO_PAIRS, 1), y -> y.states(), 729, 0, 0);

@@ -1,5 +1,9 @@
 /** The boundary cases that the document's terms name. */
 final class TermBounds extends Bounds {
+    private static final Call[] QUESTIONS = {y -> y.river(), y -> y.fewest(0x11), y -> y.losses(0x111),
+        y -> y.river(), y -> y.fewest(0x22), y -> y.fewest(0), y -> y.states(), y -> y.most(), y -> y.alone(0, 1),
+        y -> y.alone(1, 2), y -> y.comes(0), y -> y.comes(0x11)};
+
     private TermBounds() {
     }
 
@@ -351,27 +355,27 @@ final class TermBounds extends Bounds {
             y -> y.set(1, 0, 1), y -> y.set(1, 0, 10), y -> bid(y, "*"), y -> y.season(2), y -> y.seed(9)};
         for (int i = 0; i < changes.length; i++) {
             NamesThatShrink used = maker.make();
-            NamesThatShrink fresh = maker.make();
-            answers(used);
+            for (int q = 0; q < QUESTIONS.length; q++) {
+                answer(used, q);
+            }
             changes[i].on(used);
-            changes[i].on(fresh);
-            String got = answers(used);
-            String due = answers(fresh);
-            isTrue("behind change " + i + " it answers" + got + ", due is" + due, got.equals(due));
+            for (int q = 0; q < QUESTIONS.length; q++) {
+                NamesThatShrink fresh = maker.make();
+                changes[i].on(fresh);
+                String got = answer(used, q);
+                String due = answer(fresh, q);
+                isTrue("question " + q + " behind change " + i + " answered " + got + ", due is " + due,
+                    got.equals(due));
+            }
         }
     }
 
-    private static String answers(NamesThatShrink x) {
-        Call[] questions = {y -> y.river(), y -> y.fewest(0x11), y -> y.losses(0x111), y -> y.river(),
-            y -> y.fewest(0x22), y -> y.fewest(0), y -> y.states(), y -> y.most(), y -> y.alone(0, 1),
-            y -> y.alone(1, 2), y -> y.comes(0), y -> y.comes(0x11)};
-        StringBuilder b = new StringBuilder();
-        for (Call question : questions) {
-            x.season(0);
-            b.append(" ").append(question.on(x)).append(":");
-            for (int i = 0; i < x.count(5); i++) {
-                b.append(" ").append(x.row(i));
-            }
+    /** The answer, and the ROW. */
+    private static String answer(NamesThatShrink x, int question) {
+        x.season(0);
+        StringBuilder b = new StringBuilder().append(QUESTIONS[question].on(x)).append(":");
+        for (int i = 0; i < x.count(5); i++) {
+            b.append(" ").append(x.row(i));
         }
         return b.toString();
     }
