@@ -1,8 +1,8 @@
 import java.nio.file.Path;
 
 /**
- * For each sentence of the document that names a boundary case a test of its own, which quotes it.
- * A sentence of that kind that no test quotes is a failure, too.
+ * For each sentence of the document's terms and promises, above all for those that name a boundary
+ * case, a test of its own, which quotes it. Words that no test quotes are a failure, too.
  */
 public final class BoundsTest {
     private BoundsTest() {

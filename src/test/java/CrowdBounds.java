@@ -191,8 +191,9 @@ final class CrowdBounds extends Bounds {
     }
 
     private static void sheetEntries() {
-        says(5, "bytes (kind 0), shorts (1), ints (2) of n entries f, f + step, .. (of bytes, shorts the lowest"
-            + " bits, with their sign), or a missing one (3):");
+        says(5, "PEOPLE get NAMES told as a row of numbers (CODES), as a sheet tells them: bytes (kind 0), shorts (1),"
+            + " ints (2) of n entries f, f + step, .. (of bytes, shorts the lowest bits, with their sign), or a missing"
+            + " one (3):");
         NamesThatShrink x = of("a;b;c");
         // as bytes 127, -128, -127; as codes 127, 128 and 129 are three letters each
         due("bytes with their sign", x.sheet(0, 3, 127, 1), 1);

@@ -6,22 +6,18 @@ import java.util.List;
 import java.util.regex.Matcher;
 import java.util.regex.Pattern;
 
-/** DOC.md by its sections, and which of its words the tests of boundary sentences have quoted. */
+/** DOC.md by its sections, and which of its words the tests have quoted. */
 final class Document {
     static final int TERMS = 0;
     static final int PROMISES = 38;
-    /** Words by which a sentence names a boundary case. */
-    private static final Pattern BOUNDARY = Pattern.compile("\\b[Rr]efused\\b|\\bNONE\\b|\\bfalse\\b|-[123]\\b"
-        + "|\\bNoSuchElementException\\b|\\bnone\\b|\\b[Nn]obody\\b|\\bempt(y|ies)\\b|\\bat most\\b|\\bat first\\b"
-        + "|\\d \\.\\. \\d|\\bmore than\\b|\\babove\\b|\\bbelow\\b|\\b301st\\b|\\bas ints\\b|\\bwithout sign\\b"
-        + "|\\bwith their sign\\b|\\bthe first 12\\b|\\b[46]0\\b|\\bninth\\b|\\broom\\b|\\btoo early\\b|\\bnever\\b");
+    private static final Pattern WORDS = Pattern.compile("[\\w*~=();]+");
 
     private final String[] section = new String[PROMISES + 1];
     private final boolean[][] quoted = new boolean[PROMISES + 1][];
 
     Document(Path file) throws IOException {
         String all = Files.readString(file);
-        section[TERMS] = between(all, "## Terms", "Ahead of the calls");
+        section[TERMS] = terms(all);
         for (int p = 1; p <= PROMISES; p++) {
             String title = "## Promise " + p + ":";
             section[p] = between(all, title, "\n## ");
@@ -32,6 +28,13 @@ final class Document {
             section[p] = plain(section[p].replace("```text", "").replace("```", ""));
             quoted[p] = new boolean[section[p].length()];
         }
+    }
+
+    /** With the sentence on an object's calls, and the one on the listener that is told as a heading. */
+    private static String terms(String all) {
+        String numbered = between(all, "## Terms", "Ahead of the calls").replaceAll("(?m)^\\d\\. ", "");
+        return between(all, "who is nameless.", "## The public face") + numbered
+            + between(all, "the interface says: ---- what a listener knows", "Ahead of the calls");
     }
 
     private static String between(String all, String from, String to) {
@@ -56,15 +59,17 @@ final class Document {
         return true;
     }
 
-    /** Every place that names a boundary case, but stands in no quote. */
+    /** Every run of words that stands in no quote. */
     List<String> unquoted() {
         List<String> found = new ArrayList<>();
         for (int p = 0; p <= PROMISES; p++) {
-            Matcher m = BOUNDARY.matcher(section[p]);
+            int last = -1;
+            Matcher m = WORDS.matcher(section[p]);
             while (m.find()) {
-                if (!quoted[p][m.start()]) {
-                    int to = Math.min(section[p].length(), m.end() + 30);
-                    found.add("promise " + p + ": " + section[p].substring(Math.max(0, m.start() - 30), to));
+                boolean goesOn = last >= 0 && m.start() == last + 1;
+                last = quoted[p][m.start()] ? -1 : m.end();
+                if (last >= 0 && !goesOn) {
+                    found.add("promise " + p + ": " + section[p].substring(m.start()));
                 }
             }
         }

@@ -4,6 +4,7 @@ import java.lang.reflect.Method;
 import java.lang.reflect.Modifier;
 import java.nio.file.Files;
 import java.nio.file.Path;
+import java.util.List;
 import java.util.Set;
 import java.util.TreeSet;
 import java.util.regex.Matcher;
@@ -11,21 +12,18 @@ import java.util.regex.Pattern;
 
 /** The rules of LANGUAGE.md that can be seen from outside: the face, and words that must not stand. */
 public final class LanguageTest {
-    private static final String FACE = "int sign(int);boolean end(int);int crowd();int sheet(int,int,int,int);"
-        + "int of(int,int);int set(int,int,int);int call(int);int hey(int);int begin(int);int undo();int order();"
-        + "int pass(int,int);int rename(int,int);int season(int);int common(int,int);int meet(int,int);"
-        + "int pairs(int);int tree();int most();int fewest(long);int losses(long);int river();int alone(int,int);"
-        + "int states();int comes(long);int names(int,int,int);int safe(int,int);int listen(int);"
-        + "int hears(int,boolean);int knows();int asks();int forget();int seed(int);boolean keep(int);"
-        + "boolean again(int);int count(int);int row(int)";
     private static final String[] FORBIDDEN = {"->", "::", "\\bcatch\\b", "\\btry\\b", "\\bfinally\\b",
         "\\bsynchronized\\b", "\\bassert\\b", "Exact\\b", "\\bdouble\\b", "\\bfloat\\b", "\\bnew Integer\\b",
         "\\bhashCode\\b", "\\btoString\\b", "\\bwhile \\(true\\)", "\\bstatic \\{", "\\bSystem\\.(?!arraycopy)",
         "\\bArrays\\.(?!fill\\()", "\\bsort\\b", "\\bprotected\\b", "\\bpackage\\b", "\\bMath\\.(?!max|min)"};
+    private static final int LONGEST_METHOD = 60;
     private static int failed;
 
+    private LanguageTest() {
+    }
+
     public static void main(String[] args) throws Exception {
-        checkFace();
+        checkFace(Files.readString(Path.of(System.getProperty("doc", "../shared/DOC.md"))));
         checkMembers();
         for (Class<?> c : NamesThatShrink.class.getDeclaredClasses()) {
             check("static and not public: " + c, Modifier.isStatic(c.getModifiers())
@@ -36,6 +34,7 @@ public final class LanguageTest {
         check("some twelve classes", NamesThatShrink.class.getDeclaredClasses().length <= 12);
         String source = System.getProperty("source", "src/main/java/NamesThatShrink.java");
         checkWords(Files.readString(Path.of(source)));
+        checkLengths(Files.readAllLines(Path.of(source)));
         System.out.println(failed == 0 ? "the rules are kept" : failed + " rules are broken");
         if (failed != 0) {
             System.exit(1);
@@ -49,30 +48,42 @@ public final class LanguageTest {
         }
     }
 
-    private static void checkFace() {
-        Set<String> due = new TreeSet<>(Set.of(FACE.split(";")));
-        Set<String> got = new TreeSet<>();
-        for (Method m : NamesThatShrink.class.getDeclaredMethods()) {
-            if (Modifier.isPublic(m.getModifiers())) {
-                StringBuilder b = new StringBuilder(m.getReturnType() + " " + m.getName() + "(");
-                for (Class<?> p : m.getParameterTypes()) {
-                    b.append(b.charAt(b.length() - 1) == '(' ? "" : ",").append(p);
-                }
-                got.add(b + ")");
-            }
+    /** Every constant, constructor and method is as the document shows it, and there is no other. */
+    private static void checkFace(String doc) {
+        String face = doc.substring(doc.indexOf("## The public face"), doc.indexOf("## Terms"));
+        Set<String> due = new TreeSet<>();
+        Matcher m = Pattern.compile("    public ([^;{]*);").matcher(face);
+        while (m.find()) {
+            due.add(m.group(1).replaceAll("(int|long|boolean) \\w+([,)])", "$1$2"));
         }
-        check("the face is " + due + ", not " + got, due.equals(got));
+        Set<String> got = new TreeSet<>();
+        for (Method method : NamesThatShrink.class.getDeclaredMethods()) {
+            addShown(got, method.toGenericString());
+        }
+        for (Constructor<?> made : NamesThatShrink.class.getDeclaredConstructors()) {
+            addShown(got, made.toGenericString());
+        }
+        for (Field field : NamesThatShrink.class.getDeclaredFields()) {
+            boolean isConstant = Modifier.isPublic(field.getModifiers());
+            addShown(got, field.toGenericString() + (isConstant ? " = " + NamesThatShrink.NONE : ""));
+        }
+        check("the face is " + due + ", not " + got, !due.isEmpty() && due.equals(got));
+        check("the class is as shown", face.contains("public final class NamesThatShrink {"));
         int type = NamesThatShrink.class.getModifiers();
         check("public and final", Modifier.isPublic(type) && Modifier.isFinal(type));
-        Constructor<?>[] made = NamesThatShrink.class.getDeclaredConstructors();
-        check("one public constructor", made.length == 1 && Modifier.isPublic(made[0].getModifiers()));
+    }
+
+    private static void addShown(Set<String> shown, String member) {
+        if (member.startsWith("public ")) {
+            shown.add(member.substring("public ".length()).replace("NamesThatShrink.", "").replace("java.util.", "")
+                .replace(",", ", "));
+        }
     }
 
     private static void checkMembers() {
         for (Method m : NamesThatShrink.class.getDeclaredMethods()) {
             int how = m.getModifiers();
             check("public or private: " + m, Modifier.isPublic(how) || Modifier.isPrivate(how) || m.isSynthetic());
-            check("seven parameters: " + m, m.getParameterCount() <= 7);
         }
         for (Field f : NamesThatShrink.class.getDeclaredFields()) {
             int how = f.getModifiers();
@@ -82,8 +93,8 @@ public final class LanguageTest {
 
     private static void checkClass(Class<?> c) {
         Set<String> face = new TreeSet<>();
-        for (String m : FACE.split(";")) {
-            face.add(m.substring(m.indexOf(' ') + 1, m.indexOf('(')));
+        for (Method m : NamesThatShrink.class.getMethods()) {
+            face.add(m.getName());
         }
         int fields = 0;
         for (Field f : c.getDeclaredFields()) {
@@ -95,6 +106,7 @@ public final class LanguageTest {
         for (Method m : c.getDeclaredMethods()) {
             boolean isFace = c == NamesThatShrink.class && Modifier.isPublic(m.getModifiers());
             check("no other method bears a name of the face: " + m, isFace || !face.contains(m.getName()));
+            check("seven parameters: " + m, m.getParameterCount() <= 7);
         }
     }
 
@@ -112,5 +124,21 @@ public final class LanguageTest {
         for (int i = 0; i < source.length(); i++) {
             check("a sign above 127", source.charAt(i) < 128);
         }
+    }
+
+    /** A method goes from its head to the brace that stands as far right as the head does. */
+    private static void checkLengths(List<String> lines) {
+        Pattern head = Pattern.compile("( {4}| {8})\\w[^=]*\\) (throws \\w+ )?\\{");
+        int methods = 0;
+        for (int from = 0; from < lines.size(); from++) {
+            Matcher m = head.matcher(lines.get(from));
+            if (!m.matches()) {
+                continue;
+            }
+            methods++;
+            int length = lines.subList(from, lines.size()).indexOf(m.group(1) + "}") + 1;
+            check("some sixty lines: " + lines.get(from), length > 0 && length <= LONGEST_METHOD);
+        }
+        check("methods are found in the source", methods > 100);
     }
 }

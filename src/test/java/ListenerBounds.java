@@ -6,6 +6,7 @@ final class ListenerBounds extends Bounds {
     }
 
     static void run() {
+        atFirst();
         listen();
         hears();
         hearsForty();
@@ -35,6 +36,30 @@ final class ListenerBounds extends Bounds {
             // aa, ab, .. ff, then aaa, ..
             x.hears(i < 36 ? 8 + i / 6 * 7 + i % 6 : 21 + i, false);
         }
+        return x;
+    }
+
+    private static void atFirst() {
+        says(0, "(of somebody whose NAME is told to nobody: 1 .. 5 LETTERS a .. one told, at first a .. c).");
+        NamesThatShrink x = nobody();
+        due("names of a .. c", x.knows(), 363);
+        dueRow("the least of them", x, 1, 1);
+        due("not none", x.hears(code("a"), false), 362);
+        due("five letters", x.hears(code("ccccc"), false), 361);
+        due("not six", x.hears(code("cccccc"), false), 361);
+        due("not d", x.hears(code("d"), false), 361);
+        due("d did not answer", x.hears(code("d"), true), 0);
+        x.forget();
+        due("nor did six letters", x.hears(code("cccccc"), true), 0);
+        x.forget();
+        due("five can have", x.hears(code("cccca"), true), 1);
+        tells("the crowd has no part in it", () -> of("d;ab"), y -> y.knows(), 363, 1, 1);
+        stays("nor is it called with the crowd", () -> heardOne(), y -> y.call(code("ab")), 0);
+    }
+
+    private static NamesThatShrink heardOne() {
+        NamesThatShrink x = of("d;abc");
+        x.hears(code("ab"), true);
         return x;
     }
 

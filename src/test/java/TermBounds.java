@@ -8,6 +8,8 @@ final class TermBounds extends Bounds {
     }
 
     static void run() {
+        lastCalls();
+        letters();
         names();
         people();
         crowdTexts();
@@ -20,6 +22,42 @@ final class TermBounds extends Bounds {
         rows();
         searches();
         refusedCalls();
+    }
+
+    private static void lastCalls() {
+        says(0, "An object is used for at most 512 calls after it has been made; what later calls answer is free.");
+        NamesThatShrink x = nobody();
+        x.sign('a' << 24 | 'a' << 16 | 'a' << 8 | 'a');
+        x.sign('a' << 24 | ';' << 16 | 'b' << 8 | ';');
+        x.end(7);
+        x.crowd();
+        for (int calls = 4; calls < 512; calls += 4) {
+            int letter = 1 + calls / 4 % 6;
+            due("call " + (calls + 1), x.rename(1, letter), 1);
+            // aaaaa has lost them all behind a, if that is in its way
+            due("call " + (calls + 2), x.states(), letter == 1 ? 11 : 12);
+            due("call " + (calls + 3), x.hey(1), 2);
+            due("call " + (calls + 4), x.count(7), calls / 4);
+        }
+    }
+
+    private static void letters() {
+        says(0, "LETTERS a .. f.");
+        for (int sign = 0; sign < 256; sign++) {
+            boolean isLetter = sign >= 'a' && sign <= 'f';
+            NamesThatShrink x = nobody();
+            x.sign(sign << 24);
+            x.end(1);
+            due("crowd() of the sign " + sign, x.crowd(), isLetter ? 1 : -1);
+            x.sign(sign << 24);
+            x.end(1);
+            due("order() of the sign " + sign, x.order(), isLetter ? 1 : sign == '*' ? 0 : unfinished(sign));
+        }
+    }
+
+    /** A digit, or ~, can stand there, but it ends too early. */
+    private static int unfinished(int sign) {
+        return sign >= '1' && sign <= '9' || sign == '~' ? -2 : -1;
     }
 
     private static void names() {
